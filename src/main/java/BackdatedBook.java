@@ -261,7 +261,6 @@ public final class BackdatedBook {
         entryAmount[entryCount] = amount;
         // The place may have held a cancelled entry that an undone batch took out.
         entryCancelled[entryCount] = false;
-        cancelledInBatch[entryCount] = false;
         entryCount++;
     }
 
